@@ -337,9 +337,9 @@ public final class AgeLetters {
             return BAD;
         }
         int year = folk.born[person] + age;
-        // One that cannot be opened by then is in no fewest group.
-        int able = lived.ableBy(year);
-        int most = Integer.bitCount(able);
+        // One that cannot help is in no fewest group.
+        int helpful = lived.helpfulFor(person, words, year);
+        int most = Integer.bitCount(helpful);
         supposed.takeFrom(lived);
         for (int size = 0; size <= most; size++) {
             int group = 0;
@@ -347,8 +347,7 @@ public final class AgeLetters {
                 if (Integer.bitCount(group) == size && teaches(group, person, words, year)) {
                     return group;
                 }
-                // The next greater group of able ones alone.
-                group = (group - able) & able;
+                group = nextWithin(group, helpful);
             }
         }
         return NONE;
@@ -415,8 +414,9 @@ public final class AgeLetters {
         if (!isBelow(c, SIXTEENTHS + 1) || !folk.isThere(person) || !isBelow(word, WORDS) || !isBelow(what, 2)) {
             return LEAST_LONG - BAD;
         }
-        long above = weightOfKnowing(c, person, word);
-        long below = power(SIXTEENTHS, folk.count);
+        int involved = lived.involvedIn(lived.helpfulFor(person, 1 << word, YEARS - 1)) | 1 << person;
+        long above = weightOfKnowing(c, person, word, involved);
+        long below = power(SIXTEENTHS, Integer.bitCount(involved));
         // What is below is a power of two, so halving is all that lowest terms take.
         for (int i = 0; i < 4 * PERSONS && below > 1 && (above & 1) == 0; i++) {
             above >>= 1;
@@ -425,22 +425,27 @@ public final class AgeLetters {
         return what == 0 ? above : below;
     }
 
-    private long weightOfKnowing(int c, int person, int word) {
+    /** Of all that may befall the involved ones; the ends of others change nothing for the person. */
+    private long weightOfKnowing(int c, int person, int word, int involved) {
         long sum = 0;
+        int many = Integer.bitCount(involved);
+        int shorter = 0;
         supposed.takeFrom(lived);
-        for (int shorter = 0; shorter < 1 << folk.count; shorter++) {
-            int how = Integer.bitCount(shorter);
-            long weight = power(c, how) * power(SIXTEENTHS - c, folk.count - how);
-            if (weight == 0) {
-                continue;
-            }
-            supposed.folk.shorten(folk, shorter);
-            supposed.live();
-            if ((supposed.knownBits[person] >> word & 1) == 1) {
+        for (int i = 0; i < 1 << many; i++) {
+            int early = Integer.bitCount(shorter);
+            long weight = power(c, early) * power(SIXTEENTHS - c, many - early);
+            if (weight != 0 && knowsWithShorter(shorter, word, person)) {
                 sum += weight;
             }
+            shorter = nextWithin(shorter, involved);
         }
         return sum;
+    }
+
+    private boolean knowsWithShorter(int shorter, int word, int person) {
+        supposed.folk.shorten(folk, shorter);
+        supposed.live();
+        return (supposed.knownBits[person] >> word & 1) == 1;
     }
 
     public int drawn(int seed, int c) {
@@ -614,6 +619,11 @@ public final class AgeLetters {
     private int find(int finding) {
         latestFinding = finding;
         return -10 - finding;
+    }
+
+    /** The next greater group of some of these bits alone; 0 behind the greatest. */
+    private static int nextWithin(int group, int bits) {
+        return (group - bits) & bits;
     }
 
     private static boolean isBelow(int number, int bound) {
@@ -808,6 +818,8 @@ public final class AgeLetters {
         final int[] knownBits;
         /** Only where a word is known, but not of itself. */
         final int[] learnedIn;
+        /** Only while helpful letters are sought. */
+        private final int[] wantedBits;
 
         Years(Folk folk, Post post) {
             this.folk = folk;
@@ -819,6 +831,7 @@ public final class AgeLetters {
             dueIn = new int[Post.ROOM];
             knownBits = new int[PERSONS];
             learnedIn = new int[PERSONS * WORDS];
+            wantedBits = new int[PERSONS];
         }
 
         void takeFrom(Years other) {
@@ -924,15 +937,54 @@ public final class AgeLetters {
             return folk.lives(reader, due) ? due : YEARS;
         }
 
-        /** Letters that could be opened by a year, were all words known, as bits. */
-        int ableBy(int year) {
-            int able = 0;
-            for (int letter = 0; letter < post.size; letter++) {
-                if (dueYear(letter) <= year) {
-                    able |= 1 << letter;
+        /**
+         * Letters that may help a person to know words by a year, as bits: those that could be
+         * opened by then and bring a word that is wanted, by the person or for a letter that helps.
+         * Without the others the years are the same to the person, so they need not be tried.
+         */
+        int helpfulFor(int person, int words, int year) {
+            int helpful = 0;
+            Arrays.fill(wantedBits, 0);
+            wantedBits[person] = words & ~folk.own[person];
+            for (int round = 0; round < post.size; round++) {
+                for (int letter = 0; letter < post.size; letter++) {
+                    if ((helpful >> letter & 1) == 0 && dueYear(letter) <= year && bringsWanted(letter)) {
+                        helpful |= 1 << letter;
+                        want(post.writer[letter], post.word[letter]);
+                        want(post.reader[letter], post.needed[letter]);
+                    }
                 }
             }
-            return able;
+            return helpful;
+        }
+
+        private boolean bringsWanted(int letter) {
+            int reader = post.reader[letter];
+            boolean isReadOut = folk.kind[reader] == ELDER;
+            for (int person = 0; person < folk.count; person++) {
+                boolean hears = isReadOut ? person != reader : person == reader;
+                if (hears && (wantedBits[person] >> post.word[letter] & 1) == 1) {
+                    return true;
+                }
+            }
+            return false;
+        }
+
+        private void want(int person, int word) {
+            if (word != NONE) {
+                wantedBits[person] |= 1 << word & ~folk.own[person];
+            }
+        }
+
+        /** Who writes or reads one of these letters, as bits. */
+        int involvedIn(int letters) {
+            int persons = 0;
+            for (int letter = 0; letter < post.size; letter++) {
+                if ((letters >> letter & 1) == 1) {
+                    persons |= 1 << post.writer[letter] | 1 << post.reader[letter];
+                }
+            }
+            return persons;
         }
 
         /** Whether a person lives in a year and knew the word behind the year ahead. */
