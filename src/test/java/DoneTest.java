@@ -160,6 +160,7 @@ public final class DoneTest {
     chances("ten", x, 1, 9, 0, 576650390625L, 1099511627776L);
     chances("ten", x, 8, 9, 0, 1, 1024);
     chances("ten", x, 15, 9, 0, 1, 1099511627776L);
+    chances("ten", x, 16, 9, 0, 0, 1);
     chances("nine", x, 1, 8, 0, 38443359375L, 68719476736L);
     chances("two", x, 1, 1, 0, 225, 256);
   }
@@ -192,6 +193,10 @@ public final class DoneTest {
     x.letter(2, 3, 56, 0, -1);
     chances("it, too", x, 4, 3, 0, 3, 4);
     chances("the elder never", x, 4, 1, 0, 0, 1);
+    AgeLetters z = Due.of("0099o;0060e;0099o");
+    z.knows(0, 1);
+    z.letter(0, 1, 55, 0, -1);
+    chances("if the elder lives on", z, 4, 2, 0, 3, 4);
     // A longer life of 3 makes 1 read it out ahead of the birth of 4.
     AgeLetters y = Due.of("0099o;0099e;0099e;0040o;5040o");
     y.knows(0, 1);

@@ -4,6 +4,7 @@ public final class PlansTest {
 
   public static void main(String[] args) {
     send();
+    sendByWhoLearned();
     sendToAnElder();
     sendBesideTwelve();
     trust();
@@ -53,6 +54,16 @@ public final class PlansTest {
     sends("the reader itself does not write", y, 0, 0, 40, 1, 20);
     sends("by one who knows it", y, 0, 2, 30, 1, 20);
     wrongSends(x);
+  }
+
+  /** 2 hears it when it is born, in 5, and may write it from 6 on, a year old; 0 tells 5 at least. */
+  private static void sendByWhoLearned() {
+    AgeLetters x = Due.of("0010f;0099e;0599o;3050o");
+    x.knows(0, 1);
+    sends("by 0 itself", x, 0, 3, 35, 0, 0);
+    x.letter(0, 1, 0, 0, -1);
+    due.is("learned(2, 0)", x.learned(2, 0), 5);
+    sends("by one who learned it", x, 0, 3, 31, 2, 6);
   }
 
   private static void wrongSends(AgeLetters x) {
@@ -112,6 +123,8 @@ public final class PlansTest {
     AgeLetters y = Due.of("0099o;0099o");
     y.letter(2, 0, 50, 0, -1);
     due.is("only whom there is", y.trust(0, 0), AgeLetters.NONE);
+    y.letter(0, 1, 50, 0, -1);
+    due.is("person 0, too", y.trust(0, 1), 1);
     due.is("trust(0, 2)", y.trust(0, 2), AgeLetters.BAD);
   }
 

@@ -208,6 +208,7 @@ public final class SheetsTest {
   }
 
   private static void count() {
+    due.is("elders, the first one, too", Due.of("0001e;0001e").count(6), 2);
     AgeLetters x = Due.of("0099o;6099e;0010f;0010e");
     x.knows(0, 7);
     x.knows(1, 128);
@@ -273,5 +274,31 @@ public final class SheetsTest {
         4, 35, 1, 0, 0, 3,
         20, 1, 0,
         0, 1, 1031, 1, 1, 3));
+    lateDigest();
+  }
+
+  /** Here the ends by chance, and who has which lot of seed 7 (12, 14, 4, 2), count. */
+  private static void lateDigest() {
+    AgeLetters x = Due.of("0060o;0060o;0060o;0060e");
+    x.knows(1, 1);
+    x.knows(2, 1);
+    x.knows(3, 2);
+    x.letter(1, 0, 55, 0, -1);
+    x.letter(2, 1, 55, 0, -1);
+    x.letter(3, 1, 55, 1, -1);
+    x.letter(0, 9, 60, 0, -1);
+    due.is("digest()", x.digest(), fold(
+        4, 23, 4, 4, 3, 0, 1, 3, -1,
+        0, 60, 0, 0, 1, 55, 40,
+        0, 60, 0, 1, 3, 0, 40,
+        0, 60, 0, 1, 1, 0, 40,
+        0, 60, 1, 2, 2, -1, 40,
+        55, 1, 255,
+        55, 1, 255,
+        55, 1, 255,
+        -1, 1, 255,
+        8, 55, 3, 0, 8, 7,
+        0, 1, 0,
+        0, -1, 1039, 9, 16, 3));
   }
 }

@@ -103,6 +103,7 @@ public final class YearsTest {
     due.is("tooSoon()", x.tooSoon(), Due.bits(0, 3));
     x.knows(1, 1);
     due.is("known of itself", x.opened(0), 30);
+    due.is("learned(1, 0), no longer by a letter", x.learned(1, 0), 0);
   }
 
   private static void birthAndForgedAge() {
