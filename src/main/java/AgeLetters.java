@@ -35,27 +35,28 @@ public final class AgeLetters {
     private static final long LEAST_LONG = 1L << 63;
 
     private final Text text;
-    private final Folk folk;
-    private final Post post;
-    private final Deeds deeds;
-    private final Row[] rows;
     /** The years as they are; lived anew by every call that changes people, words or letters. */
     private final Years lived;
     /** The years as they would be; taken anew from those that are by every call that supposes. */
     private final Years supposed;
+    /** The people and letters of the years as they are. */
+    private final Folk folk;
+    private final Post post;
+    private final Deeds deeds;
+    private final Row[] rows;
     private int latestFinding;
 
     public AgeLetters() {
         text = new Text();
-        folk = new Folk();
-        post = new Post();
+        lived = new Years();
+        supposed = new Years();
+        folk = lived.folk;
+        post = lived.post;
         deeds = new Deeds();
         rows = new Row[SHEETS];
         for (int s = 0; s < SHEETS; s++) {
             rows[s] = new Row();
         }
-        lived = new Years(folk, post);
-        supposed = new Years(new Folk(), new Post());
         latestFinding = 0;
     }
 
@@ -821,9 +822,9 @@ public final class AgeLetters {
         /** Only while helpful letters are sought. */
         private final int[] wantedBits;
 
-        Years(Folk folk, Post post) {
-            this.folk = folk;
-            this.post = post;
+        Years() {
+            folk = new Folk();
+            post = new Post();
             awayBits = 0;
             writtenBits = 0;
             openedBits = 0;
