@@ -277,28 +277,32 @@ public final class SheetsTest {
     lateDigest();
   }
 
-  /** Here the ends by chance, and who has which lot of seed 7 (12, 14, 4, 2), count. */
+  /** Here the ends by chance, and who has which lot of seed 7 (12, 14, 4, 2, 3), count. */
   private static void lateDigest() {
-    AgeLetters x = Due.of("0060o;0060o;0060o;0060e");
+    AgeLetters x = Due.of("0060o;0060o;0060o;0060e;0060o");
     x.knows(1, 1);
     x.knows(2, 1);
     x.knows(3, 2);
+    x.knows(4, 4);
     x.letter(1, 0, 55, 0, -1);
     x.letter(2, 1, 55, 0, -1);
     x.letter(3, 1, 55, 1, -1);
     x.letter(0, 9, 60, 0, -1);
+    x.letter(4, 1, 55, 2, -1);
     due.is("digest()", x.digest(), fold(
-        4, 23, 4, 4, 3, 0, 1, 3, -1,
+        5, 29, 5, 5, 4, 0, 1, 4, -1,
         0, 60, 0, 0, 1, 55, 40,
-        0, 60, 0, 1, 3, 0, 40,
+        0, 60, 0, 1, 7, 0, 40,
         0, 60, 0, 1, 1, 0, 40,
         0, 60, 1, 2, 2, -1, 40,
+        0, 60, 0, 4, 4, -1, 40,
         55, 1, 255,
         55, 1, 255,
         55, 1, 255,
         -1, 1, 255,
-        8, 55, 3, 0, 8, 7,
+        55, 1, 255,
+        8, 55, 4, 0, 8, 23,
         0, 1, 0,
-        0, -1, 1039, 9, 16, 3));
+        0, -1, 1055, 9, 16, 3));
   }
 }
