@@ -59,15 +59,21 @@ public final class AgainstPlainTest {
     return random.nextInt(bound);
   }
 
+  /** Whether people are of like ages, so that many letters are opened and words go from hand to hand. */
+  private boolean isClose() {
+    return run % 3 == 0;
+  }
+
   private void type(int b) {
     same("type(" + b + ")", x.type(b), y.type(b));
   }
 
   private void people(boolean small) {
     int n = small ? 2 + random.nextInt(4) : 1 + random.nextInt(8);
-    int spread = 20 + random.nextInt(80);
+    int spread = isClose() ? 12 : 20 + random.nextInt(80);
     for (int p = 0; p < n; p++) {
-      String one = (p > 0 ? ";" : "") + String.format("%02d%02d", random.nextInt(spread), 1 + random.nextInt(99))
+      int end = isClose() ? 35 + random.nextInt(30) : 1 + random.nextInt(99);
+      String one = (p > 0 ? ";" : "") + String.format("%02d%02d", random.nextInt(spread), end)
           + "oeeof".charAt(random.nextInt(5));
       for (char c : one.toCharArray()) {
         type(c);
@@ -90,7 +96,7 @@ public final class AgainstPlainTest {
   private void letter(boolean small) {
     int writer = someone();
     int reader = someone();
-    int year = random.nextInt(10) == 0 ? about(200) : random.nextInt(100);
+    int year = random.nextInt(10) == 0 ? about(200) : isClose() ? 8 + random.nextInt(50) : random.nextInt(100);
     int word = about(small ? 3 : 8);
     int needed = random.nextInt(3) > 0 ? -1 : about(small ? 3 : 8);
     same("letter(" + writer + ", " + reader + ", " + year + ", " + word + ", " + needed + ")",
