@@ -1,16 +1,28 @@
 /** Counts answers that are as due, and prints those that are not. */
 final class Due {
+  private static final int PROMISES = 36;
+
+  private final int[] ofPromise = new int[PROMISES + 1];
+  private String where = "";
+  private int promise = 0;
   private int right = 0;
   private int wrong = 0;
 
+  /** What follows is a test of this promise, by this sentence. */
+  void promise(int number, String sentence) {
+    promise = number;
+    where = "promise " + number + ", \"" + sentence + "\": ";
+  }
+
   void is(String call, long got, long want) {
+    ofPromise[promise]++;
     if (got == want) {
       right++;
       return;
     }
     wrong++;
     if (wrong <= 40) {
-      System.out.println(call + " answered " + got + ", due is " + want);
+      System.out.println(where + call + " answered " + got + ", due is " + want);
     }
   }
 
@@ -23,6 +35,17 @@ final class Due {
     if (wrong != 0 || right == 0) {
       System.exit(1);
     }
+  }
+
+  /** Also fails if one of these promises was not tested at all. */
+  void endOf(int... promises) {
+    for (int number : promises) {
+      if (ofPromise[number] == 0) {
+        wrong++;
+        System.out.println("promise " + number + " has no test here");
+      }
+    }
+    end();
   }
 
   static void typeAll(AgeLetters x, String people) {
