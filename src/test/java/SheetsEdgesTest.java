@@ -27,6 +27,9 @@ public final class SheetsEdgesTest {
     countsFindings();
     digestOfNothing();
     digestInItsOrder();
+    digestOfItsYears();
+    digestOfItsPlans();
+    digestOfItsChances();
     digestChangesNothing();
     due.endOf(29, 30, 31, 32, 33, 34, 35, 36);
   }
@@ -549,6 +552,74 @@ public final class SheetsEdgesTest {
       x.forget();
       due.is("with " + left + " letters and nothing done", x.digest(), foldOf(x));
     }
+  }
+
+  /** A year more or less, or another number in place of that of the document, would be told apart here. */
+  private static void apart(String call, long told, long... others) {
+    for (long other : others) {
+      due.isTrue(call + " is told apart from its neighbours", told != other);
+    }
+  }
+
+  private static void digestOfItsYears() {
+    due.promise(36, "known(50, it), known(199, it), learned(it, 0), age(it, 40), waits(60, 0 and 1), tooSoon()");
+    AgeLetters x = Due.of("0099o;0099o;2099o;4080o;9999o;0040f;0099o;2039o");
+    x.knows(0, 255);
+    int[] years = {49, 50, 51, 59, 60, 61};
+    for (int word = 0; word < 6; word++) {
+      x.letter(0, 1, years[word], word, -1);
+    }
+    for (int year = 59; year <= 61; year++) {
+      x.letter(0, 2, year, 6, -1);
+    }
+    x.letter(0, 4, 99, 7, -1);
+    x.letter(0, 7, 40, 6, -1);
+    apart("known(50, 1)", x.known(50, 1), x.known(49, 1), x.known(51, 1));
+    apart("known(199, 4)", x.known(199, 4), x.known(197, 4));
+    apart("learned(1, 0)", x.learned(1, 0), x.learned(1, 1));
+    apart("age(3, 40)", x.age(3, 40), x.age(3, 39), x.age(3, 41));
+    apart("age(5, 40)", x.age(5, 40), x.age(5, 39), x.age(5, 41));
+    apart("waits(60, 0)", x.waits(60, 0), x.waits(59, 0), x.waits(61, 0));
+    apart("waits(60, 1)", x.waits(60, 1), x.waits(59, 1), x.waits(61, 1));
+    due.is("tooSoon()", x.tooSoon(), 1 << 10);
+    due.is("digest()", x.digest(), foldOf(x));
+  }
+
+  private static void digestOfItsPlans() {
+    due.promise(36, "send(0, 0, 0 to 2), trust(0, 0), teach(0, 1, 30)");
+    AgeLetters x = Due.of("1089o;0599o;0099o;0099o");
+    x.knows(1, 7);
+    x.letter(1, 0, 36, 0, -1);
+    x.letter(1, 0, 35, 0, -1);
+    x.letter(1, 0, 35, 1, -1);
+    x.letter(3, 2, 50, 3, -1);
+    apart("teach(0, 1, 30)", x.teach(0, 1, 30), x.teach(0, 1, 29), x.teach(0, 1, 31), x.teach(0, 0, 30), x.teach(0, 2, 30),
+        x.teach(0, 3, 30), x.teach(1, 1, 30));
+    due.is("send(0, 0, 0)", x.send(0, 0, 0), 10);
+    due.is("send(0, 0, 1)", x.send(0, 0, 1), 1);
+    due.is("send(0, 0, 2)", x.send(0, 0, 2), 5);
+    apart("send(0, 0, 0)", x.send(0, 0, 0), x.send(0, 1, 0), x.send(0, 2, 0), x.send(3, 0, 0));
+    due.is("digest()", x.digest(), foldOf(x));
+    x.knows(1, 0);
+    apart("trust(0, 0)", x.trust(0, 0), x.trust(0, 1), x.trust(2, 0));
+    due.is("digest() with nothing known", x.digest(), foldOf(x));
+  }
+
+  private static void digestOfItsChances() {
+    due.promise(36, "chance(4, 0, 0), above, below (as they are told), drawn(7, 4)");
+    AgeLetters x = Due.of("0060o;0060o;0060o;0060o;0060o;0060o;0060o;0060o;0060o;0060o");
+    for (int person = 0; person < 10; person++) {
+      x.knows(person, person == 0 ? 2 : 1);
+      x.letter(person, (person + 1) % 10, 55, person == 0 ? 1 : 0, -1);
+    }
+    x.letter(0, 1, 45, 1, -1);
+    for (int what = 0; what < 2; what++) {
+      apart("chance(4, 0, 0, " + what + ")", x.chance(4, 0, 0, what), x.chance(3, 0, 0, what), x.chance(5, 0, 0, what),
+          x.chance(4, 0, 1, what), x.chance(4, 1, 0, what));
+    }
+    // The lots of seed 7 are 12, 14, 4, 2, 3, 5, 2, 14, 1, ..: person 2 has one of 4, person 4 one of 3.
+    apart("drawn(7, 4)", x.drawn(7, 4), x.drawn(6, 4), x.drawn(8, 4), x.drawn(7, 3), x.drawn(7, 5));
+    due.is("digest()", x.digest(), foldOf(x));
   }
 
   private static void digestChangesNothing() {
