@@ -278,6 +278,19 @@ public final class DoneEdgesTest {
     chances("if both live on", y, 1, 1, 0, 225, 256);
     chances("if both live on", y, 5, 1, 0, 121, 256);
     chances("if both live on", y, 15, 1, 0, 1, 256);
+    AgeLetters z = Due.of("0060o;0060o;0060o;0060o");
+    z.knows(2, 1);
+    z.letter(2, 3, 51, 0, -1);
+    chances("if 2 and 3 live on, whatever befalls 0 and 1", z, 4, 3, 0, 9, 16);
+    chances("if 2 and 3 live on, whatever befalls 0 and 1", z, 15, 3, 0, 1, 256);
+    AgeLetters hearer = Due.of("0099o;0099e;0060o");
+    hearer.knows(0, 1);
+    hearer.letter(0, 1, 51, 0, -1);
+    chances("if 2 lives to hear it", hearer, 4, 2, 0, 3, 4);
+    AgeLetters elder = Due.of("0099o;0060e;0099o");
+    elder.knows(0, 1);
+    elder.letter(0, 1, 51, 0, -1);
+    chances("if 1 lives to read it out", elder, 4, 2, 0, 3, 4);
   }
 
   private static void chanceInLowestTerms() {

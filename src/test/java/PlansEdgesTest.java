@@ -8,6 +8,7 @@ public final class PlansEdgesTest {
   public static void main(String[] args) {
     sendEarlierThanWithout();
     sendOfWhoKnows();
+    sendByWhoLearned();
     sendWithinLives();
     sendOfLikeOnes();
     sendAsTheLastOne();
@@ -86,6 +87,25 @@ public final class PlansEdgesTest {
     due.promise(20, "the writer (not the reader)");
     sendsNone("alone", teller("0099o"), 0, 0);
     sendsNone("alone, of another word", teller("0099o"), 1, 0);
+  }
+
+  /** 2 learns the word in 5, its first year; all others are learned in 90 by all who live then. */
+  private static void sendByWhoLearned() {
+    due.promise(20, "the writer KNOWS the WORD (behind the YEAR ahead), whatever else is learned later");
+    for (int word = 0; word < 8; word++) {
+      AgeLetters x = Due.of("0010f;0099e;0599o;3099o;0099o;0099e");
+      x.knows(0, 1 << word);
+      x.knows(4, 255 & ~(1 << word));
+      x.letter(0, 1, 0, word, -1);
+      for (int other = 0; other < 8; other++) {
+        if (other != word) {
+          x.letter(4, 5, 90, other, -1);
+        }
+      }
+      due.is("known(89, 2)", x.known(89, 2), 1 << word);
+      due.is("known(90, 2)", x.known(90, 2), 255);
+      sends("by 2, of age 1", x, word, 3, 31, 2, 6);
+    }
   }
 
   private static void sendWithinLives() {

@@ -407,6 +407,16 @@ public final class YearsEdgesTest {
     due.is("in year 1", two("0099o;0099o", 1, -1).learned(1, 0), 1);
     due.is("in year 198", two("0099o;9999o", 99, -1).learned(1, 0), 198);
     due.is("an elder who forgot it", two("0099o;9999e", 99, -1).learned(1, 0), NONE);
+    for (int word = 0; word < 8; word++) {
+      AgeLetters each = Due.of("0099o;2070o");
+      each.knows(0, 255);
+      each.letter(0, 1, 40, word, -1);
+      each.letter(0, 1, 30, word, -1);
+      each.letter(0, 1, 50, word, -1);
+      due.is("the first of three: learned(1, " + word + ")", each.learned(1, word), 50);
+      each.knows(1, 1 << word);
+      due.is("of itself, though there are letters: learned(1, " + word + ")", each.learned(1, word), 0);
+    }
     due.promise(16, "a WORD (0 to 7), a PERSON that there is: BAD");
     x.knows(1, 128);
     due.is("learned(1, 7)", x.learned(1, 7), 0);
@@ -442,6 +452,10 @@ public final class YearsEdgesTest {
     due.is("one in year 0: loud(1)", two("0099o;0099o", 0, -1).loud(1), 1);
     due.is("one in year 198: loud(0)", two("0099o;9999o", 99, -1).loud(0), 198);
     due.is("one in year 198: loud(1)", two("0099o;9999o", 99, -1).loud(1), 1);
+    AgeLetters behind = two("0099o;2029o;0099o", 30, -1);
+    behind.letter(0, 2, 31, 0, -1);
+    due.is("one behind a sealed one: loud(0)", behind.loud(0), 31);
+    due.is("loud(1)", behind.loud(1), 1);
     due.promise(18, "of like ones the first");
     AgeLetters x = two("0099o;0099o", 40, -1);
     x.letter(0, 1, 30, 0, -1);
@@ -496,6 +510,18 @@ public final class YearsEdgesTest {
     AgeLetters z = two("0099o;2029o;2031o", 30, -1);
     z.letter(1, 2, 50, 0, -1);
     due.is("what comes of another's grace is none", z.tooSoon(), 1);
+    // With a year more elder 1 reads word 0 out in 50, and 2 needs it in 60, its own year of grace.
+    AgeLetters ahead = Due.of("0099o;0049e;0059o");
+    ahead.knows(0, 3);
+    ahead.letter(0, 1, 50, 0, -1);
+    ahead.letter(0, 2, 60, 1, 0);
+    due.is("sealed()", ahead.sealed(), 3);
+    due.is("2 would need the grace of 1, too", ahead.tooSoon(), 1);
+    AgeLetters behind = Due.of("0099o;0049e;0059o");
+    behind.knows(0, 3);
+    behind.letter(0, 2, 60, 1, 0);
+    behind.letter(0, 1, 50, 0, -1);
+    due.is("2 would need the grace of 1, too", behind.tooSoon(), 2);
   }
 
   private static void tooSoonAtTheLastYear() {
