@@ -11,6 +11,7 @@ public final class PeopleEdgesTest {
     typeTells();
     typeIsFull();
     wipes();
+    wipesNothingElse();
     undoes();
     undoMendsFaults();
     emptyIsWell();
@@ -136,6 +137,43 @@ public final class PeopleEdgesTest {
     due.is("wipe() again", x.wipe(), 0);
     due.is("undo()", x.undo(), AgeLetters.NOT);
     due.is("type('0')", x.type('0'), 1);
+  }
+
+  /** Words, letters, deeds and sheets, of those who are there and of those who are not. */
+  private static AgeLetters filled(String people) {
+    AgeLetters x = Due.of(people);
+    x.knows(0, 3);
+    x.knows(9, 128);
+    x.letter(0, 1, 30, 0, -1);
+    x.letter(0, 9, 30, 1, 0);
+    x.done(60, 1, 0, 1);
+    x.sheet(0, 0, 5);
+    x.put(0, 0, 4, 44);
+    x.sheet(3, 2, -1);
+    return x;
+  }
+
+  private static void wipesNothingElse() {
+    due.promise(3, "PEOPLE are empty, and nothing else is");
+    AgeLetters x = filled("0070o;2050o");
+    x.wipe();
+    due.is("count(2)", x.count(2), 2);
+    due.is("count(5)", x.count(5), 1);
+    due.is("count(8)", x.count(8), 5);
+    due.is("get(0, 0, 4)", x.get(0, 0, 4), 44);
+    due.is("knows(9, 0)", x.knows(9, 0), 128);
+    due.is("count(3), nobody being there", x.count(3), 0);
+    due.isTrue("wiped, it is as one without people", Look.isSame(() -> filled(""), () -> {
+      AgeLetters y = filled("0070o;2050o");
+      y.wipe();
+      return y;
+    }));
+    due.isTrue("with the same people again, it is as it was", Look.isSame(() -> filled("0070o;2050o"), () -> {
+      AgeLetters y = filled("0070o;2050o");
+      y.wipe();
+      Due.typeAll(y, "0070o;2050o");
+      return y;
+    }));
   }
 
   private static void undoes() {
